@@ -9,6 +9,9 @@ public final class DumplingPolls {
     private static final int MOST_WEIGHT = 40;
     private static final int MOST_SIZE = 30;
     private static final int MOST_HEAT = 9;
+    private static final int MOST_SWELL = 3;
+    private static final int LEAST_ROOM = 9;
+    private static final int MOST_ROOM = 40;
     private static final int MOST_SEATS = 54;
     private static final int LAST_MINUTE = 99;
     private static final int FARTHEST = 40;
@@ -16,8 +19,8 @@ public final class DumplingPolls {
     private static final int TENTHS = 10;
 
     private final Reader reader;
-    private Recipe told;
-    private Recipe spare;
+    private final Recipe told;
+    private final Recipe read;
     private final Stew stew;
     private final Stew later;
     private final Past past;
@@ -32,7 +35,7 @@ public final class DumplingPolls {
     public DumplingPolls() {
         reader = new Reader();
         told = new Recipe();
-        spare = new Recipe();
+        read = new Recipe();
         stew = new Stew();
         later = new Stew();
         past = new Past();
@@ -61,15 +64,13 @@ public final class DumplingPolls {
     }
 
     public int pot() {
-        int items = reader.readInto(spare);
+        int items = reader.readInto(read);
         if (items < 0) {
             return items;
         }
-        Recipe read = spare;
-        spare = told;
-        told = read;
-        reader.length = 0;
+        told.copy(read);
         stew.begin(told);
+        reader.length = 0;
         past.known = 0;
         imagesKept = 0;
         seen.known = 0;
@@ -601,6 +602,29 @@ public final class DumplingPolls {
             room = 20;
         }
 
+        private void copy(Recipe other) {
+            dumplings = other.dumplings;
+            heat = other.heat;
+            glue = other.glue;
+            room = other.room;
+            System.arraycopy(other.weight, 0, weight, 0, MOST);
+            System.arraycopy(other.size, 0, size, 0, MOST);
+            System.arraycopy(other.swell, 0, swell, 0, MOST);
+            System.arraycopy(other.seats, 0, seats, 0, MOST);
+        }
+
+        /** WEIGHT, SIZE, SWELL and SEATS are the numbers 0 to 3. */
+        private void addDumpling(int[] numbers) {
+            if (dumplings < 0 || dumplings >= MOST || numbers.length < 4) {
+                return;
+            }
+            weight[dumplings] = numbers[0];
+            size[dumplings] = numbers[1];
+            swell[dumplings] = numbers[2];
+            seats[dumplings] = numbers[3];
+            dumplings++;
+        }
+
         private int all() {
             return (1 << dumplings) - 1;
         }
@@ -860,8 +884,10 @@ public final class DumplingPolls {
         private static final int NUMBER = 1;
         private static final int WRONG = 2;
         private static final int FAULT = -10;
+        private static final int MOST_NUMBERS = 4;
 
         private final int[] letters = new int[LETTERS];
+        private final int[] numbers = new int[MOST_NUMBERS];
         private int length;
         private int place;
         private int start;
@@ -901,75 +927,66 @@ public final class DumplingPolls {
 
         /** If it answers false, the token at start is the one that can't stand there. */
         private boolean readItem(Recipe recipe) {
-            switch (token) {
-                case 'd': return readDumpling(recipe);
-                case 'h': return readHeat(recipe);
-                case 'g': return readGlue(recipe);
-                case 'r': return readRoom(recipe);
+            int sign = token;
+            if (!mayBegin(sign, recipe)) {
+                return false;
+            }
+            int many = sign == 'd' ? MOST_NUMBERS : 1;
+            for (int i = 0; i < many; i++) {
+                advance();
+                if (token != NUMBER || value < leastOf(sign, i) || value > greatestOf(sign, i)) {
+                    return false;
+                }
+                numbers[i] = value;
+            }
+            advance();
+            if (token != ';') {
+                return false;
+            }
+            tell(sign, recipe);
+            return true;
+        }
+
+        private boolean mayBegin(int sign, Recipe recipe) {
+            switch (sign) {
+                case 'd': return recipe.dumplings < MOST;
+                case 'h': return !heatIsTold;
+                case 'g': return !glueIsTold;
+                case 'r': return !roomIsTold;
                 default: return false;
             }
         }
 
-        private boolean readDumpling(Recipe recipe) {
-            int d = recipe.dumplings;
-            if (d < 0 || d >= MOST) {
-                return false;
+        private static int leastOf(int sign, int i) {
+            if (sign == 'r') {
+                return LEAST_ROOM;
             }
-            if (!readNumber(0, MOST_WEIGHT)) {
-                return false;
-            }
-            recipe.weight[d] = value;
-            if (!readNumber(1, 9)) {
-                return false;
-            }
-            recipe.size[d] = value;
-            if (!readNumber(0, 3)) {
-                return false;
-            }
-            recipe.swell[d] = value;
-            if (!readNumber(0, 9)) {
-                return false;
-            }
-            recipe.seats[d] = value;
-            recipe.dumplings++;
-            return readEnd();
+            return sign == 'd' && i == 1 ? 1 : 0;
         }
 
-        private boolean readHeat(Recipe recipe) {
-            if (heatIsTold || !readNumber(0, MOST_HEAT)) {
-                return false;
+        private static int greatestOf(int sign, int i) {
+            if (sign == 'r') {
+                return MOST_ROOM;
             }
-            heatIsTold = true;
-            recipe.heat = value;
-            return readEnd();
-        }
-
-        private boolean readGlue(Recipe recipe) {
-            if (glueIsTold || !readNumber(0, 9)) {
-                return false;
+            if (sign == 'd' && i == 0) {
+                return MOST_WEIGHT;
             }
-            glueIsTold = true;
-            recipe.glue = value;
-            return readEnd();
+            return sign == 'd' && i == 2 ? MOST_SWELL : 9;
         }
 
-        private boolean readRoom(Recipe recipe) {
-            if (roomIsTold || !readNumber(9, 40)) {
-                return false;
+        private void tell(int sign, Recipe recipe) {
+            if (sign == 'd') {
+                recipe.addDumpling(numbers);
+            } else if (sign == 'h') {
+                recipe.heat = numbers[0];
+                heatIsTold = true;
+            } else if (sign == 'g') {
+                recipe.glue = numbers[0];
+                glueIsTold = true;
+            } else {
+                recipe.room = numbers[0];
+                roomIsTold = true;
             }
-            roomIsTold = true;
-            recipe.room = value;
-            return readEnd();
-        }
-
-        private boolean readNumber(int low, int high) {
-            advance();
-            return token == NUMBER && value >= low && value <= high;
-        }
-
-        private boolean readEnd() {
-            advance();
-            return token == ';';
         }
 
         private void advance() {

@@ -141,6 +141,8 @@ public final class ForetoldTest {
         due("kept(3, 10)", x.kept(3, 10), 7);
         due("kept(3, 9)", x.kept(3, 9), Check.NONE);
         due("kept(0, 9)", x.kept(0, 9), Check.NONE);
+        due("kept(0, 1)", x.kept(0, 1), Check.NONE);
+        due("kept(0, 40)", x.kept(0, 40), 0);
         due("kept(0, 0)", x.kept(0, 0), Check.BAD);
         due("kept(0, 41)", x.kept(0, 41), Check.BAD);
         due("kept(4, 1)", x.kept(4, 1), Check.BAD);

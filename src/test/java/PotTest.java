@@ -196,6 +196,7 @@ public final class PotTest {
         due("count(2)", x.count(2), 1);
         due("count(3)", x.count(3), 20);
         due("count(4)", x.count(4), 0);
+        due("count(5)", x.count(5), 0);
         due("now(0)", x.now(0), 0);
         due("now(1)", x.now(1), 3);
         due("now(2)", x.now(2), 1);
@@ -209,6 +210,11 @@ public final class PotTest {
         due("dumpling(0, 6)", x.dumpling(0, 6), Check.NONE);
         due("dumpling(1, 0)", x.dumpling(1, 0), Check.BAD);
         due("trace() goes on", x.trace(), 100001);
+        check.types(x, "h1;g1;r9;");
+        due("each told again", x.pot(), 3);
+        check.types(x, "h2;g2;r10;");
+        due("and again", x.pot(), 3);
+        due("ROOM", x.count(3), 10);
         due("pot() of nothing", x.pot(), 0);
         due("count(0) of nothing", x.count(0), 0);
         due("dumpling(0, 0)", x.dumpling(0, 0), Check.BAD);

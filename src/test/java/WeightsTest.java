@@ -58,9 +58,12 @@ public final class WeightsTest {
         three(x, 1, 1, 14, 14);
         x.sees(1, 1, 9);
         three(x, 1, 0, Check.NONE, Check.NONE);
+        x = check.pot("h0;d1 1 0 0;", 2);
+        x.sees(0, 1, 9);
+        three(x, 0, 1, 0, 0);
         due("weights(0, 3)", x.weights(0, 3), Check.BAD);
         due("weights(0, -1)", x.weights(0, -1), Check.BAD);
-        due("weights(2, 0)", x.weights(2, 0), Check.BAD);
+        due("weights(1, 0)", x.weights(1, 0), Check.BAD);
         due("weights(-1, 0)", x.weights(-1, 0), Check.BAD);
     }
 
@@ -99,13 +102,24 @@ public final class WeightsTest {
         x.sees(1, 4, 8);
         due("weights(1, 0)", x.weights(1, 0), 3);
         due("look(1) of three", x.look(1), 1);
-        x = check.pot("h0;d1 1 1 0;", 2);
+        x = check.pot("h0;d1 1 1 0;d1 2 0 0;", 3);
+        // 0 goes up from the first minute on, w from the w-th on: 20 are at the bottom behind 20.
+        due("look(0), the last minute", x.look(0), 20);
+        x.sees(1, 1, 9);
+        due("weights(1, 0) of two", x.weights(1, 0), 2);
+        due("look(1) of two", x.look(1), 1);
         x.sees(0, 3, 9);
         due("of one", x.weights(0, 0), 1);
         due("look(0) of one", x.look(0), Check.NONE);
+        x.drops(0);
+        check.minutes(x, 29);
+        x.heats(9);
         x.forget();
+        due("look(0), 39 alike always", x.look(0), 1);
+        x.skewers(0);
         x.sees(0, 1, 10);
         x.sees(0, 5, 7);
-        due("of another", x.weights(0, 1), x.weights(0, 2));
+        // SIZE 15 grows to 20 and HEAT is 9: of 26 it goes up in the last three of 5 minutes.
+        three(x, 0, 1, 26, 26);
     }
 }
