@@ -127,6 +127,18 @@ public final class DoneTest {
         x.skewers(0);
         check.minutes(x, 1);
         due("alike at DEPTH 0 first", x.dumpling(0, 5), 1);
+        x = check.pot("h9;g0;d12 5 0 0;d0 5 0 0;d12 4 1 0;", 5);
+        x.drops(0);
+        x.drops(2);
+        check.minutes(x, 1);
+        due("0 and 2", x.dumpling(0, 5), 5);
+        x.heats(0);
+        check.minutes(x, 1);
+        x.drops(1);
+        x.heats(9);
+        check.minutes(x, 1);
+        due("1 to 0, though not to 2", x.dumpling(0, 5), 7);
+        due("all know", x.dumpling(1, 5) + x.dumpling(2, 5), 14);
         x = check.pot("h3;g0;d9 6 0 0;d9 6 0 0;", 4);
         x.drops(0);
         x.drops(1);

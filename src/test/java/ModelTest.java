@@ -4,9 +4,10 @@ public final class ModelTest {
     private static final int[] EDGES = {-1, 0, 1, 5, 6, 7, 9, 10, 11, 20, 21, 40, 41, 54, 55,
         255, 256, Integer.MAX_VALUE, Integer.MIN_VALUE, Integer.MIN_VALUE + 1, 1 << 16, -10, -9};
     private static long seed = 7;
+    private static int haste;
 
     public static void main(String[] args) {
-        for (int run = 0; run < 400; run++) {
+        for (int run = 0; run < 1500; run++) {
             play(run);
         }
         check.end();
@@ -62,6 +63,7 @@ public final class ModelTest {
         Model y = new Model();
         int calls = tell(x, y, 0);
         int anew = below(3);
+        haste = 6 + below(30);
         while (calls < 512) {
             if (anew > 0 && below(200) == 0) {
                 calls = tell(x, y, calls);
@@ -87,7 +89,7 @@ public final class ModelTest {
     private static void ask(DumplingPolls x, Model y, int run) {
         String name = "run " + run + ": ";
         int which = below(100);
-        if (which < 12) {
+        if (which < haste) {
             check.due(name + "minute()", x.minute(), y.minute());
         } else if (which < 40) {
             askDone(x, y, name);
