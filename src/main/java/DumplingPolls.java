@@ -416,14 +416,15 @@ public final class DumplingPolls {
                 return NONE;
             }
         }
-        potsOfSet[0] = 0;
+        int pots = 0;
         for (int set = 1; set < SETS && set <= all; set++) {
-            potsOfSet[set] = fewestPotsOf(set);
+            pots = fewestPotsOf(set);
+            potsOfSet[set] = pots;
         }
-        return potsOfSet[all];
+        return pots;
     }
 
-    /** Asks potsOfSet of the smaller sets, so these have to stand there. */
+    /** Asks potsOfSet of the smaller sets, so these have to stand there; that of none stays 0. */
     private int fewestPotsOf(int set) {
         int fewest = MOST;
         for (int first = 1; first <= set; first++) {
@@ -544,12 +545,18 @@ public final class DumplingPolls {
         int most = 0;
         for (int weight = 0; weight <= MOST_WEIGHT; weight++) {
             if ((fitting >> weight & 1) != 0) {
-                int depth = depthAlone(d, weight, minutes);
-                alike[depth]++;
-                most = Math.max(most, alike[depth]);
+                most = Math.max(most, oneMoreAt(depthAlone(d, weight, minutes)));
             }
         }
         return most;
+    }
+
+    private int oneMoreAt(int depth) {
+        if (depth < 0 || depth > BOTTOM) {
+            return 0;
+        }
+        alike[depth]++;
+        return alike[depth];
     }
 
     // ---- the bodies of the kinds
@@ -838,7 +845,7 @@ public final class DumplingPolls {
         }
 
         private void remember(Stew stew) {
-            copyInto(ring[next], stew);
+            copyInto(place(), stew);
             next = next + 1 < MOST_KNOWN ? next + 1 : 0;
             known = Math.min(MOST_KNOWN, known + 1);
         }
@@ -846,7 +853,11 @@ public final class DumplingPolls {
         private void recall(Stew stew) {
             next = next > 0 ? next - 1 : MOST_KNOWN - 1;
             known = Math.max(0, known - 1);
-            copyInto(stew, ring[next]);
+            copyInto(stew, place());
+        }
+
+        private Stew place() {
+            return next >= 0 && next < MOST_KNOWN ? ring[next] : null;
         }
 
         private static void copyInto(Stew to, Stew from) {
