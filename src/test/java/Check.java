@@ -18,6 +18,14 @@ final class Check {
         }
     }
 
+    void same(String what, String got, String want) {
+        asked++;
+        if (!got.equals(want)) {
+            wrong++;
+            System.out.println(name + ": " + what + " is\n  " + got + "\ndue is\n  " + want);
+        }
+    }
+
     /** Types a text and looks at how many letters there are each time. */
     void types(DumplingPolls x, String text) {
         int had = x.count(5);
