@@ -259,6 +259,11 @@ public final class WeightsEdgesTest {
         x.sees(0, 3, 9);
         three(x, 0, 3, 7, 9);
         due("look(0), of 7, 8, 9 7 is never alone", x.look(0), 1);
+        x = pot("h9;d9 7 3 0;");
+        x.sees(0, 6, 10);
+        three(x, 0, 7, 34, 40);
+        // Three go up in the 7th minute, two in the 8th; 39 and 40 are at the bottom always, and count.
+        due("look(0), four at the bottom behind 7, two behind 8", x.look(0), 8);
     }
 
     /** "the greatest number of these that are alike deep": at one DEPTH, at the bottom and up, too. */
