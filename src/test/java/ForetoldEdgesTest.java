@@ -444,6 +444,17 @@ public final class ForetoldEdgesTest {
         due("party(20)", x.party(20), 59);
         due("party(23)", x.party(23), 63);
         due("party(24)", x.party(24), NONE);
+        // Of 2, 2, 2, 6 and 5 SEATS 16 sets have 6 to 11.
+        x.drops(3);
+        x.drops(0);
+        x.minute();
+        due("party(7), whether DRY or not", x.party(7), 9);
+        due("party(6), whether DRY or not", x.party(6), 8);
+        due("power(4, 12), whether DRY or not", x.power(4, 12), 16);
+        x.undo();
+        x.undo();
+        x.undo();
+        due("power(4, 12), all DRY", x.power(4, 12), 16);
     }
 
     /** "how many have less than q SEATS, and q or more with it" */
