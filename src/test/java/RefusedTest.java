@@ -18,17 +18,14 @@ public final class RefusedTest {
 
     public static void main(String[] args) {
         sceneIsBusy();
-        badOnes();
-        badNumbers();
-        badAheadOfState();
-        states();
-        refuse(Scene::busy);
-        faults();
-        refuse(Scene::busy);
+        refusedOnTheWay(Scene::busy);
+        refusedOnTheWay(Scene::mixed);
         answers();
         leaveAlone(Scene::busy);
         lateOnes();
         refuse(Scene::late);
+        undoneOnes();
+        refuse(Scene::undone);
         fullOnes();
         refuse(Scene::full);
         freshOnes();
@@ -36,6 +33,15 @@ public final class RefusedTest {
         traceAlone();
         keepAlone();
         check.end();
+    }
+
+    private static void refusedOnTheWay(Supplier<DumplingPolls> scene) {
+        badOnes();
+        badNumbers();
+        badAheadOfState();
+        states();
+        faults();
+        refuse(scene);
     }
 
     private static void no(String call, ToIntFunction<DumplingPolls> ask, int due) {
@@ -57,12 +63,18 @@ public final class RefusedTest {
     private static void leaveAlone(Supplier<DumplingPolls> scene) {
         String now = Scene.all(scene.get());
         String behind = Scene.behind(scene.get());
+        String text = Scene.text(scene.get());
         for (Asked a : asked) {
             DumplingPolls x = scene.get();
             a.ask.applyAsInt(x);
             a.ask.applyAsInt(x);
             check.same("all behind " + a.call, Scene.all(x), now);
+            x = scene.get();
+            a.ask.applyAsInt(x);
             check.same("what comes behind " + a.call, Scene.behind(x), behind);
+            x = scene.get();
+            a.ask.applyAsInt(x);
+            check.same("THE TEXT behind " + a.call, Scene.text(x), text);
         }
         asked.clear();
     }
@@ -176,7 +188,7 @@ public final class RefusedTest {
     private static void states() {
         no("drops(0), not DRY", x -> x.drops(0), STATE);
         no("drops(4), up", x -> x.drops(4), STATE);
-        no("heats(0), it is so", x -> x.heats(0), STATE);
+        no("heats(), it is so", x -> x.heats(x.now(1)), STATE);
         no("skewers(3), DRY", x -> x.skewers(3), STATE);
         no("skewers(2), DRY again", x -> x.skewers(2), STATE);
         no("dips(0), on its way", x -> x.dips(0), STATE);
@@ -220,9 +232,14 @@ public final class RefusedTest {
 
     private static void lateOnes() {
         no("minute() at 99", DumplingPolls::minute, STATE);
-        no("back(1), none was kept", x -> x.back(1), STATE);
         bad("back(2)", x -> x.back(2));
         bad("back(-1)", x -> x.back(-1));
+    }
+
+    private static void undoneOnes() {
+        no("undo() of no more", DumplingPolls::undo, STATE);
+        no("back(1), none was kept", x -> x.back(1), STATE);
+        no("heats(9), it is so", x -> x.heats(9), STATE);
     }
 
     private static void fullOnes() {
@@ -233,7 +250,7 @@ public final class RefusedTest {
         bad("type(256), BAD ahead of FULL", x -> x.type(256));
         no("sees(0, 1, 0), full", x -> x.sees(0, 1, 0), FULL);
         no("sees(1, 20, 10), full", x -> x.sees(1, 20, 10), FULL);
-        bad("sees(2, 1, 0), BAD ahead of FULL", x -> x.sees(2, 1, 0));
+        bad("sees(5, 1, 0), BAD ahead of FULL", x -> x.sees(5, 1, 0));
         bad("sees(-1, 1, 0), BAD ahead of FULL", x -> x.sees(-1, 1, 0));
         bad("sees(0, 0, 0), BAD ahead of FULL", x -> x.sees(0, 0, 0));
         bad("sees(0, 21, 0), BAD ahead of FULL", x -> x.sees(0, 21, 0));

@@ -1,3 +1,6 @@
+import java.util.LinkedHashMap;
+import java.util.Map;
+
 /** Objects in the midst of a run, all that can be asked of them, and all that comes behind. */
 final class Scene {
     private Scene() { }
@@ -43,27 +46,90 @@ final class Scene {
         return x;
     }
 
-    /** The minute is 99, image 1 was not kept, and more than ten things were done. */
-    static DumplingPolls late() {
-        DumplingPolls x = pot("h4;d6 4 0 1;d2 9 1 2;");
+    /**
+     * As busy(), but 0 and 1 have RISEN, too, HEAT is neither as told nor 0, GLUE and ROOM not as at first,
+     * just image 0 is kept, 3 can come up, one is larger than ROOM, less than ten things may be UNDONE;
+     * nothing is SEEN, no letter is typed.
+     */
+    static DumplingPolls calm() {
+        return calm(1);
+    }
+
+    private static DumplingPolls calm(int weightOf3) {
+        DumplingPolls x = pot("h5;g2;r9;d20 9 1 5;d20 9 1 3;d0 9 2 0;d" + weightOf3 + " 3 0 2;d0 2 0 1;");
+        x.heats(9);
         x.drops(0);
-        for (int i = 0; i < 99; i++) {
+        x.drops(1);
+        x.drops(2);
+        x.drops(4);
+        for (int i = 0; i < 12; i++) {
             x.minute();
-            if (i == 70) {
-                x.keep(0);
-            }
-            if (i == 96) {
-                x.drops(1);
-            }
         }
+        x.dips(2);
+        x.keep(0);
+        x.back(0);
+        x.heats(2);
+        x.skewers(0);
+        x.skewers(1);
+        x.minute();
+        x.minute();
+        x.rate(4, 1);
+        return x;
+    }
+
+    static void see(DumplingPolls x) {
+        x.sees(0, 3, 8);
+        x.sees(1, 5, 5);
+        x.sees(1, 6, 9);
+    }
+
+    static DumplingPolls mixed() {
+        return mixed(calm());
+    }
+
+    private static DumplingPolls mixed(DumplingPolls x) {
+        see(x);
+        tell(x, "h1;d");
+        return x;
+    }
+
+    /** As mixed(), but image 1 is kept, too, as things were a minute ago. */
+    static DumplingPolls both() {
+        DumplingPolls x = mixed();
+        x.undo();
+        x.keep(1);
+        x.minute();
+        return x;
+    }
+
+    /** The minute is 99, more than ten things were done; 0 and 1 are up in one LUMP. */
+    static DumplingPolls late() {
+        DumplingPolls x = both();
+        for (int i = x.now(0); i < 99; i++) {
+            x.minute();
+        }
+        return x;
+    }
+
+    /** Nothing can be UNDONE any more, image 1 was not kept. */
+    static DumplingPolls undone() {
+        DumplingPolls x = mixed();
+        for (int i = 0; i < 5; i++) {
+            x.undo();
+        }
+        return x;
+    }
+
+    /** As mixed(), but 3 is DROPPED and never comes up. */
+    static DumplingPolls sunk() {
+        DumplingPolls x = mixed(calm(40));
+        x.drops(3);
         return x;
     }
 
     /** THE TEXT is full, and so is what is SEEN. */
     static DumplingPolls full() {
-        DumplingPolls x = pot("d6 4 0 1;d2 9 1 2;");
-        x.drops(1);
-        x.minute();
+        DumplingPolls x = calm();
         tell(x, "h7;".repeat(40));
         for (int i = 0; i < 6; i++) {
             x.sees(i % 2, 2, 9);
@@ -75,50 +141,70 @@ final class Scene {
         return new DumplingPolls();
     }
 
-    /** All that can be asked and changes nothing. */
-    static String all(DumplingPolls x) {
-        StringBuilder told = new StringBuilder();
+    /** All that can be asked and changes nothing, by calls. */
+    static Map<String, Long> asked(DumplingPolls x) {
+        Map<String, Long> told = new LinkedHashMap<>();
+        for (int what = 0; what < 6; what++) {
+            told.put("count(" + what + ")", (long) x.count(what));
+        }
         for (int d = 0; d < 6; d++) {
             for (int what = 0; what < 7; what++) {
-                told.append(x.dumpling(d, what)).append(what < 6 ? "," : ";");
+                told.put("dumpling(" + d + ", " + what + ")", (long) x.dumpling(d, what));
             }
         }
         for (int what = 0; what < 7; what++) {
-            told.append(" n").append(x.now(what));
+            told.put("now(" + what + ")", (long) x.now(what));
         }
         for (int k = 0; k < 6; k++) {
-            told.append(" o").append(x.order(k)).append(" c").append(x.count(k));
+            told.put("order(" + k + ")", (long) x.order(k));
         }
         for (int d = 0; d < 5; d++) {
-            told.append(" w").append(x.weights(d, 0)).append(",").append(x.weights(d, 1));
+            for (int what = 0; what < 3; what++) {
+                told.put("weights(" + d + ", " + what + ")", (long) x.weights(d, what));
+            }
         }
-        return told.append(" t").append(x.trace()).toString();
+        told.put("trace()", x.trace());
+        return told;
+    }
+
+    static String all(DumplingPolls x) {
+        return asked(x).toString();
+    }
+
+    /** What is not as it was, with what it is now. */
+    static String changed(Map<String, Long> was, Map<String, Long> is) {
+        Map<String, Long> changed = new LinkedHashMap<>(is);
+        changed.entrySet().removeAll(was.entrySet());
+        return changed.toString();
     }
 
     private static void some(DumplingPolls x, StringBuilder told) {
-        for (int what = 0; what < 5; what++) {
-            told.append(" ").append(x.now(what));
-        }
+        told.append(" ").append(x.now(0)).append(" ").append(x.now(1)).append(" ").append(x.now(4));
         for (int d = 0; d < 5; d++) {
             told.append(" ").append(x.dumpling(d, 1)).append(",").append(x.dumpling(d, 4));
+            told.append(",").append(x.dumpling(d, 5)).append(",").append(x.dumpling(d, 6));
         }
-        told.append(" ").append(x.dumpling(0, 5)).append(" ").append(x.dumpling(2, 6)).append(";");
+        told.append(";");
+    }
+
+    /** What THE TEXT tells; changes the object. */
+    static String text(DumplingPolls x) {
+        return "pot " + x.pot() + " clear " + x.clear() + " heat " + x.count(1);
     }
 
     /** What can be UNDONE, what the images have, and what THE TEXT tells; changes the object. */
     static String behind(DumplingPolls x) {
         StringBuilder told = new StringBuilder();
-        for (int i = 0; i < 11; i++) {
-            told.append("undo ").append(x.undo());
-            if (i < 10) {
-                some(x, told);
-            }
+        int left = 0;
+        for (int i = 0; i < 11 && left >= 0; i++) {
+            left = x.undo();
+            told.append("undo ").append(left);
+            some(x, told);
         }
         for (int image = 0; image < 2; image++) {
             told.append("back ").append(x.back(image));
             some(x, told);
         }
-        told.append("pot ").append(x.pot()).append(" clear ").append(x.clear());
-        return told.append(" heat ").append(x.count(1)).toString();
+        return told.append(text(x)).toString();
     }
 }
