@@ -1,3 +1,4 @@
+import java.util.LinkedHashMap;
 import java.util.Map;
 import java.util.function.Supplier;
 import java.util.function.ToLongFunction;
@@ -34,9 +35,21 @@ public final class AloneTest {
         check.due(call, ask.applyAsLong(x), due);
         check.due(call + " again", ask.applyAsLong(x), due);
         alike(call, x, scene.get());
-        x = scene.get();
-        ask.applyAsLong(x);
-        check.same("THE TEXT behind " + call, Scene.text(x), Scene.text(scene.get()));
+        nextIsAlike(scene, call, ask);
+    }
+
+    /** What is called next is of a new object each time, so that it can't be changed alike by what was called first. */
+    private static void nextIsAlike(Supplier<DumplingPolls> scene, String call, ToLongFunction<DumplingPolls> ask) {
+        Map<String, ToLongFunction<DumplingPolls>> next = new LinkedHashMap<>(Scene.ASKS);
+        next.put("undo()", DumplingPolls::undo);
+        next.put("back(0)", x -> x.back(0));
+        next.put("back(1)", x -> x.back(1));
+        next.put("pot()", DumplingPolls::pot);
+        next.forEach((name, then) -> {
+            DumplingPolls x = scene.get();
+            ask.applyAsLong(x);
+            check.due(name + " behind " + call, then.applyAsLong(x), then.applyAsLong(scene.get()));
+        });
     }
 
     /** What the calls below count on, as far as calls that led to it could have changed it. */

@@ -1,5 +1,6 @@
 import java.util.LinkedHashMap;
 import java.util.Map;
+import java.util.function.ToLongFunction;
 
 /** Objects in the midst of a run, all that can be asked of them, and all that comes behind. */
 final class Scene {
@@ -141,29 +142,37 @@ final class Scene {
         return new DumplingPolls();
     }
 
-    /** All that can be asked and changes nothing, by calls. */
+    /** All calls that ask and change nothing, and how each is told. */
+    static final Map<String, ToLongFunction<DumplingPolls>> ASKS = asks();
+
+    private static Map<String, ToLongFunction<DumplingPolls>> asks() {
+        Map<String, ToLongFunction<DumplingPolls>> asks = new LinkedHashMap<>();
+        for (int i = 0; i < 42; i++) {
+            int d = i / 7;
+            int what = i % 7;
+            asks.put("dumpling(" + d + ", " + what + ")", x -> x.dumpling(d, what));
+        }
+        for (int i = 0; i < 7; i++) {
+            int what = i;
+            asks.put("now(" + what + ")", x -> x.now(what));
+        }
+        for (int i = 0; i < 6; i++) {
+            int k = i;
+            asks.put("order(" + k + ")", x -> x.order(k));
+            asks.put("count(" + k + ")", x -> x.count(k));
+        }
+        for (int i = 0; i < 15; i++) {
+            int d = i / 3;
+            int what = i % 3;
+            asks.put("weights(" + d + ", " + what + ")", x -> x.weights(d, what));
+        }
+        asks.put("trace()", DumplingPolls::trace);
+        return asks;
+    }
+
     static Map<String, Long> asked(DumplingPolls x) {
         Map<String, Long> told = new LinkedHashMap<>();
-        for (int what = 0; what < 6; what++) {
-            told.put("count(" + what + ")", (long) x.count(what));
-        }
-        for (int d = 0; d < 6; d++) {
-            for (int what = 0; what < 7; what++) {
-                told.put("dumpling(" + d + ", " + what + ")", (long) x.dumpling(d, what));
-            }
-        }
-        for (int what = 0; what < 7; what++) {
-            told.put("now(" + what + ")", (long) x.now(what));
-        }
-        for (int k = 0; k < 6; k++) {
-            told.put("order(" + k + ")", (long) x.order(k));
-        }
-        for (int d = 0; d < 5; d++) {
-            for (int what = 0; what < 3; what++) {
-                told.put("weights(" + d + ", " + what + ")", (long) x.weights(d, what));
-            }
-        }
-        told.put("trace()", x.trace());
+        ASKS.forEach((call, ask) -> told.put(call, ask.applyAsLong(x)));
         return told;
     }
 
