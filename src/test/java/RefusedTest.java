@@ -24,6 +24,8 @@ public final class RefusedTest {
         leaveAlone(Scene::busy);
         lateOnes();
         refuse(Scene::late);
+        lateOnes();
+        refuse(Scene::lateMixed);
         undoneOnes();
         refuse(Scene::undone);
         fullOnes();

@@ -96,7 +96,10 @@ final class Scene {
 
     /** As mixed(), but image 1 is kept, too, as things were a minute ago. */
     static DumplingPolls both() {
-        DumplingPolls x = mixed();
+        return both(mixed());
+    }
+
+    private static DumplingPolls both(DumplingPolls x) {
         x.undo();
         x.keep(1);
         x.minute();
@@ -105,7 +108,15 @@ final class Scene {
 
     /** The minute is 99, more than ten things were done; 0 and 1 are up in one LUMP. */
     static DumplingPolls late() {
-        DumplingPolls x = both();
+        return late(both());
+    }
+
+    /** As late(), but image 1 was not kept. */
+    static DumplingPolls lateMixed() {
+        return late(mixed());
+    }
+
+    private static DumplingPolls late(DumplingPolls x) {
         for (int i = x.now(0); i < 99; i++) {
             x.minute();
         }
@@ -121,9 +132,9 @@ final class Scene {
         return x;
     }
 
-    /** As mixed(), but 3 is DROPPED and never comes up. */
+    /** As both(), but 3 is DROPPED and never comes up. */
     static DumplingPolls sunk() {
-        DumplingPolls x = mixed(calm(40));
+        DumplingPolls x = both(mixed(calm(40)));
         x.drops(3);
         return x;
     }
