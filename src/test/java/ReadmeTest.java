@@ -10,7 +10,6 @@ import java.util.TreeMap;
 import java.util.TreeSet;
 import java.util.regex.Matcher;
 import java.util.regex.Pattern;
-import javax.tools.ToolProvider;
 
 /** What README.md says: its example is compiled and played, its rows name each call and what it refuses. */
 public final class ReadmeTest {
@@ -100,8 +99,8 @@ public final class ReadmeTest {
         Path source = folder.resolve("Example.java");
         Files.writeString(source, "public class Example { public static void play(ReadmeTest.Look look) {\n"
             + counting(example) + "} }\n");
-        int rc = ToolProvider.getSystemJavaCompiler().run(null, null, null, "-encoding", "UTF-8", "-proc:none",
-            "-cp", System.getProperty("java.class.path"), "-d", folder.toString(), source.toString());
+        int rc = new ProcessBuilder("javac", "-encoding", "UTF-8", "-cp", System.getProperty("java.class.path"),
+            "-d", folder.toString(), source.toString()).inheritIO().start().waitFor();
         check.due("the example compiles", rc, 0);
         if (rc == 0) {
             try (URLClassLoader loader = new URLClassLoader(new URL[] {folder.toUri().toURL()})) {
